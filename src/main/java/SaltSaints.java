@@ -290,7 +290,7 @@ public final class SaltSaints {
         if (!isDawn(dawn) || !isBelow(v, 100)) {
             return OUTSIDE;
         }
-        if (readings.many == MOST_READINGS) {
+        if (readings.many >= MOST_READINGS) {
             return FULL;
         }
         return readings.note(k, part, dawn, v);

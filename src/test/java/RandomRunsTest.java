@@ -1,6 +1,5 @@
 import java.lang.reflect.Constructor;
 import java.lang.reflect.Field;
-import java.lang.reflect.InvocationTargetException;
 import java.lang.reflect.Method;
 import java.lang.reflect.Modifier;
 import java.util.ArrayList;
@@ -10,21 +9,19 @@ import java.util.Random;
 
 /** Long runs of calls, drawn with fixed seeds, on the class and on Reference beside it: each answer must be the same. */
 public final class RandomRunsTest {
-    private static final int RUNS = 3000, CALLS = 300;
+    private static final int RUNS = 5000, LAST_CALLS = 300;
     private static final int[] ODD = {
         -1, 0, 1, 2, 3, 4, 5, 6, 7, 8, 9, 10, 59, 60, 61, 99, 100, 127, 128, 255, 999, 1000, 32768,
         Integer.MAX_VALUE, Integer.MAX_VALUE - 1, Integer.MIN_VALUE, Integer.MIN_VALUE + 1, -2, -60};
 
     private final Random random;
-    private final int run;
-    private final SaltSaints made = new SaltSaints();
-    private final Reference due = new Reference();
-    private final List<String> calls = new ArrayList<>();
-    private boolean wrong = false;
+    private final Twin twin;
+    private final Reference due;
 
     private RandomRunsTest(int run) {
-        this.run = run;
         this.random = new Random(run);
+        this.twin = new Twin("run " + run);
+        this.due = twin.asked();
     }
 
     public static void main(String[] args) {
@@ -32,7 +29,7 @@ public final class RandomRunsTest {
         for (int run = 1; run <= RUNS && failed < 5; run++) {
             RandomRunsTest test = new RandomRunsTest(run);
             test.go();
-            failed += test.wrong ? 1 : 0;
+            failed += test.twin.isWrong() ? 1 : 0;
         }
         System.out.println(failed == 0 ? RUNS + " runs answered alike" : "some runs did not answer alike");
         if (failed != 0) {
@@ -84,10 +81,14 @@ public final class RandomRunsTest {
         if (random.nextInt(10) > 0) {
             makeStatues();
         }
-        for (int c = 0; c < CALLS && !wrong; c++) {
+        while (twin.left() > LAST_CALLS && !twin.isWrong()) {
             callAny();
         }
         lookAtAll();
+    }
+
+    private void call(String name, int... numbers) {
+        twin.call(name, numbers);
     }
 
     private void callAny() {
@@ -260,42 +261,5 @@ public final class RandomRunsTest {
 
     private int dawn() {
         return random.nextInt(3) > 0 ? below(12) : below(61);
-    }
-
-    private void call(String name, int... numbers) {
-        if (wrong) {
-            return;
-        }
-        calls.add(name + Arrays.toString(numbers));
-        Object got = answer(made, name, numbers);
-        Object want = answer(due, name, numbers);
-        if (!got.equals(want)) {
-            wrong = true;
-            System.out.println("run " + run + ": " + calls + " answered " + got + ", due is " + want);
-        }
-    }
-
-    private static Object answer(Object on, String name, int[] numbers) {
-        try {
-            for (Method method : on.getClass().getDeclaredMethods()) {
-                if (method.getName().equals(name) && Modifier.isPublic(method.getModifiers())) {
-                    return ((Number) method.invoke(on, fitted(method, numbers))).longValue();
-                }
-            }
-            return "no such call: " + name;
-        } catch (InvocationTargetException e) {
-            return "threw " + e.getCause();
-        } catch (ReflectiveOperationException e) {
-            return "could not be called: " + e;
-        }
-    }
-
-    private static Object[] fitted(Method method, int[] numbers) {
-        Object[] fitted = new Object[numbers.length];
-        Class<?>[] types = method.getParameterTypes();
-        for (int i = 0; i < numbers.length; i++) {
-            fitted[i] = types[i] == boolean.class ? (Object) (numbers[i] != 0) : (Object) numbers[i];
-        }
-        return fitted;
     }
 }
