@@ -3,6 +3,7 @@ import com.sun.source.util.JavacTask;
 import com.sun.source.util.SourcePositions;
 import com.sun.source.util.TreePath;
 import com.sun.source.util.TreePathScanner;
+import com.sun.source.util.TreeScanner;
 import com.sun.source.util.Trees;
 import java.io.File;
 import java.io.IOException;
@@ -35,6 +36,9 @@ public final class LanguageTest extends TreePathScanner<Void, Void> {
         Tree.Kind.THROW, Tree.Kind.TRY, Tree.Kind.CATCH, Tree.Kind.SYNCHRONIZED, Tree.Kind.ASSERT, Tree.Kind.INSTANCE_OF,
         Tree.Kind.SWITCH_EXPRESSION, Tree.Kind.IMPORT, Tree.Kind.PACKAGE, Tree.Kind.ANNOTATION, Tree.Kind.DOUBLE_LITERAL,
         Tree.Kind.FLOAT_LITERAL, Tree.Kind.RECORD, Tree.Kind.ENUM, Tree.Kind.INTERFACE, Tree.Kind.WHILE_LOOP, Tree.Kind.DO_WHILE_LOOP);
+
+    private static final Set<Tree.Kind> CHANGING = Set.of(Tree.Kind.PREFIX_INCREMENT, Tree.Kind.PREFIX_DECREMENT,
+        Tree.Kind.POSTFIX_INCREMENT, Tree.Kind.POSTFIX_DECREMENT);
 
     private final Trees trees;
     private final SourcePositions positions;
@@ -180,7 +184,7 @@ public final class LanguageTest extends TreePathScanner<Void, Void> {
             publicNames.add(tree.getName().toString());
         } else if (modifiers.contains(Modifier.PRIVATE) && tree.getReturnType() != null) {
             privateNames.add(tree.getName().toString());
-        } else if (modifiers.isEmpty() || modifiers.equals(Set.of(Modifier.STATIC))) {
+        } else if (!modifiers.contains(Modifier.PUBLIC) && !modifiers.contains(Modifier.PRIVATE)) {
             find(tree, "1: neither public nor private");
         }
         calls.putIfAbsent(nameOf(trees.getElement(getCurrentPath())), new TreeSet<>());
@@ -193,6 +197,9 @@ public final class LanguageTest extends TreePathScanner<Void, Void> {
         TreePath method = enclosingMethod();
         if (called != null && method != null && called.getKind() == ElementKind.METHOD && isOwn(called)) {
             calls.computeIfAbsent(nameOf(trees.getElement(method)), name -> new TreeSet<>()).add(nameOf(called));
+        }
+        if (called != null && called.getSimpleName().contentEquals("clone")) {
+            madeInConstructor(tree);
         }
         return super.visitMethodInvocation(tree, nothing);
     }
@@ -256,9 +263,46 @@ public final class LanguageTest extends TreePathScanner<Void, Void> {
 
     @Override
     public Void visitForLoop(ForLoopTree tree, Void nothing) {
-        if (tree.getCondition() == null) {
-            find(tree, "9: a loop without an end");
+        String counter = counterOf(tree);
+        if (counter == null || !isBound(counter, tree.getCondition()) || !goesUp(counter, tree) || isSet(counter, tree.getStatement())) {
+            find(tree, "9: no counter that goes up to a bound");
         }
         return super.visitForLoop(tree, nothing);
+    }
+
+    private static String counterOf(ForLoopTree tree) {
+        boolean one = tree.getInitializer().size() == 1 && tree.getInitializer().get(0) instanceof VariableTree;
+        return one ? ((VariableTree) tree.getInitializer().get(0)).getName().toString() : null;
+    }
+
+    /** The loop ends at the bound, perhaps earlier. */
+    private static boolean isBound(String counter, ExpressionTree condition) {
+        if (!(condition instanceof BinaryTree both)) {
+            return false;
+        }
+        if (both.getKind() == Tree.Kind.CONDITIONAL_AND) {
+            return isBound(counter, both.getLeftOperand()) || isBound(counter, both.getRightOperand());
+        }
+        boolean below = both.getKind() == Tree.Kind.LESS_THAN || both.getKind() == Tree.Kind.LESS_THAN_EQUAL;
+        return below && both.getLeftOperand().toString().equals(counter);
+    }
+
+    private static boolean goesUp(String counter, ForLoopTree tree) {
+        return tree.getUpdate().size() == 1 && tree.getUpdate().get(0).getExpression().toString().equals(counter + "++");
+    }
+
+    private static boolean isSet(String counter, StatementTree body) {
+        boolean[] found = new boolean[1];
+        new TreeScanner<Void, Void>() {
+            @Override
+            public Void scan(Tree tree, Void nothing) {
+                ExpressionTree set = tree instanceof AssignmentTree plain ? plain.getVariable()
+                    : tree instanceof CompoundAssignmentTree more ? more.getVariable()
+                    : tree instanceof UnaryTree one && CHANGING.contains(one.getKind()) ? one.getExpression() : null;
+                found[0] |= set != null && set.toString().equals(counter);
+                return super.scan(tree, nothing);
+            }
+        }.scan(body, null);
+        return found[0];
     }
 }
